@@ -39,7 +39,7 @@ final class Check {
         return x;
     }
 
-    /** All that can be asked of a TOWN without changing it, as one text. */
+    /** All that can be asked without changing anything, but status(), as one text. */
     static String told(DoorVotes x) {
         StringBuilder all = new StringBuilder();
         for (int what = 0; what < 9; what++) {
@@ -65,7 +65,11 @@ final class Check {
         for (int i = 0; i < 17; i++) {
             all.append('t').append(x.trace(i)).append(' ');
         }
-        return all.append('f').append(x.fault()).append('s').append(x.status()).toString();
+        return all.append('f').append(x.fault()).toString();
+    }
+
+    static void unchanged(String what, DoorVotes x, String before) {
+        dueTrue(what + " changes nothing", told(x).equals(before));
     }
 
     static void end() {
