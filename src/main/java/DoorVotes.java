@@ -1142,7 +1142,6 @@ public final class DoorVotes {
 
         private boolean readInto(Town town) {
             place = 0;
-            fault = 0;
             return readLaw(town) && readDoors(town) && readPeople(town) && readTies(town);
         }
 

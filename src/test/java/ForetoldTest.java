@@ -15,6 +15,7 @@ public final class ForetoldTest {
         whoIsLockedIn();
         fewestGifts();
         mostGifts();
+        oneGiftTooMany();
         giftsToNurses();
         parades();
         paradesThatSlam();
@@ -55,6 +56,7 @@ public final class ForetoldTest {
 
     private static void waysByDoorsThatAreShut() {
         DoorVotes x = Check.townOf(RING);
+        Check.due("way to 1 by door 0", x.way(0, 1, 1), 0);
         Check.due("who is against all goes", x.knock(1, 0), 1);
         Check.due("way round to 1", x.way(0, 1, 0), 2);
         Check.due("its first door", x.way(0, 1, 1), 2);
@@ -145,12 +147,38 @@ public final class ForetoldTest {
         gifts(z, 4, NONE, NONE);
     }
 
+    /** Two of whom each wants 20 for a vote, one who wants 2, and one who wants too many: 41 would be needed. */
+    private static void oneGiftTooMany() {
+        DoorVotes x = Check.townOf("h2,0;d0,1;p0,2;p0,2;p0,2;p0,0;p0,3;u0,4;u1,4;u3,4;");
+        int[] kind = {2, 2, 2, 4};
+        int[] unkind = {11, 11, 2, 13};
+        for (int p = 0; p < 4; p++) {
+            for (int k = 0; k < kind[p]; k++) {
+                x.gift(p, 1);
+            }
+        }
+        for (int p = 0; p < 4; p++) {
+            Check.due("a voter goes", x.knock(p, 0), 1);
+        }
+        for (int p = 0; p < 4; p++) {
+            insult(x, p, unkind[p]);
+        }
+        Check.due("against", x.at(4, 0, 6), 4);
+        gifts(x, 4, NONE, NONE);
+        x.gift(2, 1);
+        gifts(x, 4, 40, 0b0011);
+    }
+
     private static void giftsToNurses() {
         DoorVotes x = Check.townOf("h2,0;d0,1;n0,0;p0,3;u0,1;");
         x.knock(0, 0);
         Check.due("a nurse is against nobody", x.at(1, 0, 6), 0);
         gifts(x, 1, 13, 1);
         gifts(x, 0, 0, 0);
+        insult(x, 0, 7);
+        gifts(x, 1, 20, 1);
+        insult(x, 0, 1);
+        gifts(x, 1, NONE, NONE);
     }
 
     private static void parade(DoorVotes x, int person, int many, int who) {
@@ -374,6 +402,14 @@ public final class ForetoldTest {
         // With 1410633816 comes 0, which nobody is against, and a day; with 303082632 it comes again, and a day.
         drawn(x, 6, 3, 1, 0);
         drawn(x, 7, 3, 2, 1);
+        // Seed 4 gives 67228 and 1129900996 (1 knocks, a day is over), 48149351 (2 knocks), 1792290985 (1 knocks):
+        // on day 2 the vote of 0 has faded, and behind it there is that of 2.
+        DoorVotes y = Check.townOf("h2,1;d0,1;p0,2;p0,2;p0,2;");
+        y.knock(0, 0);
+        drawn(y, 2, 4, 0, 1);
+        drawn(y, 3, 4, 1, 2);
+        drawn(y, 4, 4, 1, 2);
+        Check.due("the day is as it was", y.count(4), 0);
     }
 
     private static void imagesAreKept() {

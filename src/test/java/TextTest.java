@@ -197,13 +197,14 @@ public final class TextTest {
     }
 
     private static void aTownStandsInPlaceOfTheOneBefore() {
-        DoorVotes x = Check.townOf("h3,1;d0,1;d1,2;p0,4;k0,5;i0,1;");
+        DoorVotes x = Check.townOf("h3,1;d0,1;d1,2;p0,4;k0,5;n0,5;i0,1;u1,2;");
         x.row(2, 0, 3);
         x.knock(0, 0);
         x.knock(0, 1);
         x.gift(1, 1);
         x.days(3);
         x.build(0, 2);
+        x.drawn(9, 9, 0);
         Check.due("another town", Check.tell(x, LAW + "d0,1;d1,0;s1,3;p0,3;"), 2);
         int[] counts = {1, 2, 2, 2, 0, 0, 0, 0, 0};
         for (int what = 0; what < 9; what++) {
@@ -212,6 +213,7 @@ public final class TextTest {
         Check.due("undo() of another town", x.undo(), DoorVotes.STATE);
         Check.due("gifts", x.person(1, 2), 0);
         Check.due("kin", x.person(0, 4), 0);
+        Check.due("feuds", x.person(1, 5), 0);
         for (int door = 0; door < 2; door++) {
             Check.due("who went through", x.door(door, 2), 0);
             Check.due("last", x.at(0, door, 1), DoorVotes.NONE);
