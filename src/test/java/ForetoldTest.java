@@ -19,6 +19,7 @@ public final class ForetoldTest {
         giftsToNurses();
         parades();
         paradesThatSlam();
+        paradesOf99();
         newDoors();
         bentsThatFit();
         kindsThatFit();
@@ -224,6 +225,20 @@ public final class ForetoldTest {
         parade(y, 2, 0, 0);
     }
 
+    private static void paradesOf99() {
+        DoorVotes x = Check.townOf("h2,0;d0,1;p0,4;p0,4;p0,3;");
+        for (int k = 0; k < 99; k++) {
+            x.knock(0, 0);
+            x.knock(1, 0);
+        }
+        insult(x, 1, 2);
+        Check.due("for", x.at(2, 0, 5), 99);
+        Check.due("against", x.at(2, 0, 6), 99);
+        parade(x, 2, NONE, NONE);
+        x.knock(0, 0);
+        parade(x, 2, NONE, NONE);
+    }
+
     private static void newDoor(DoorVotes x, int person, int room, int pair, int many) {
         Check.due("newDoor(" + person + ", " + room + ", 0)", x.newDoor(person, room, 0), pair);
         Check.due("newDoor(" + person + ", " + room + ", 1)", x.newDoor(person, room, 1), many);
@@ -245,6 +260,9 @@ public final class ForetoldTest {
         DoorVotes two = Check.townOf("h2,0;d0,1;p0,0;p0,3;");
         two.knock(0, 0);
         newDoor(two, 1, 1, 1, 1);
+        // A new door is only thought of: that there are six already is no matter.
+        DoorVotes six = Check.townOf("h4,0;d0,1;d0,1;d0,1;d0,1;d0,1;d0,1;p1,3;");
+        newDoor(six, 0, 3, 13, 1);
     }
 
     private static void fits(DoorVotes x, int n, int many, int least) {
