@@ -1,7 +1,15 @@
+import java.util.function.IntUnaryOperator;
+
 /** What the project's tests share: answers that are due, texts that are fed, and the last word of a test. */
 final class Check {
+    /** DOOR 0 is open to 0, and shut to 1, however 2 is bent: by both it is seen what an ITEM is. */
+    static final String PROBES = "h2,0;d0,1;f0,3;p0,3;p0,3;u0,1;";
+    /** An ITEM that is none of 1, 0 and -1. */
+    static final int OTHER = 9;
+
     private static int right;
     private static int wrong;
+    private static String sentence = "";
 
     private Check() {
     }
@@ -12,11 +20,42 @@ final class Check {
             return;
         }
         wrong++;
-        System.out.println(call + " answered " + got + ", due is " + want);
+        System.out.println(sentence + call + " answered " + got + ", due is " + want);
+    }
+
+    /** What is due from here on is due by these words of a promise of the document, or of its terms (0). */
+    static void sentence(int promise, String words) {
+        sentence = "";
+        dueTrue("promise " + promise + " says: " + words, Document.says(promise, words));
+        sentence = promise + " '" + words + "': ";
     }
 
     static void dueTrue(String what, boolean holds) {
         due(what, holds ? 1 : 0, 1);
+    }
+
+    /** A number from least to most is taken, one beyond them is BAD, however far. */
+    static void bounds(String call, IntUnaryOperator answer, int least, int most) {
+        for (int v : new int[] {least, most}) {
+            dueTrue(call + " of " + v + " is not BAD", answer.applyAsInt(v) != DoorVotes.BAD);
+        }
+        for (int v : new int[] {least - 1, most + 1, Integer.MIN_VALUE, Integer.MAX_VALUE}) {
+            due(call + " of " + v, answer.applyAsInt(v), DoorVotes.BAD);
+        }
+    }
+
+    /** What an ITEM is: 1, 0, -1 or OTHER, in a TOWN that is told as PROBES. */
+    static int item(DoorVotes x, int row, int i) {
+        boolean asShut = x.bents(2, 1, row, i, 1, 0) == 7;
+        boolean asOpen = x.bents(2, 0, row, i, 1, 0) == 7;
+        return asShut ? asOpen ? -1 : 0 : asOpen ? 1 : OTHER;
+    }
+
+    static void items(String when, DoorVotes x, int row, int... want) {
+        for (int i = 0; i < want.length; i++) {
+            due(when + ": item " + i + " of row " + row, item(x, row, i), want[i]);
+        }
+        due(when + ": behind row " + row, x.bents(2, 1, row, want.length, 1, 0), -1000012);
     }
 
     /** Feeds a text, byte by byte. */

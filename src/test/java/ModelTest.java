@@ -4,6 +4,8 @@ import java.util.Random;
 public final class ModelTest {
     private static final int RUNS = 1500;
     private static final int CALLS = 512;
+    /** Calls that come behind one another without a look at how many there were. */
+    private static final int MOST_AT_ONCE = 9;
     private static final int[] ODD = {-1, 6, 7, 41, 100, Integer.MAX_VALUE, Integer.MIN_VALUE, -1000000};
 
     private final Random random;
@@ -28,7 +30,7 @@ public final class ModelTest {
         }
         // Some runs dwell on few sorts of calls, so that deep states come about.
         boolean busy = random.nextBoolean();
-        while (calls < CALLS) {
+        while (calls < CALLS - MOST_AT_ONCE) {
             int choice = random.nextInt(100);
             if (choice < 3 && calls + 130 < CALLS) {
                 tell(random.nextInt(4) == 0 ? townText() : spoilt(townText()));

@@ -2,9 +2,8 @@
 public final class RowsTest {
     private static final int NULL = -1000011, PLACE = -1000012, SIZE = -1000014, STORE = -1000015;
     private static final int BAD = DoorVotes.BAD;
-    /** DOOR 0 is open to 0, and shut to 1, however 2 is bent: by both it is seen what an ITEM is. */
-    private static final String PROBES = "h2,0;d0,1;f0,3;p0,3;p0,3;u0,1;";
-    private static final int OTHER = 9;
+    private static final String PROBES = Check.PROBES;
+    private static final int OTHER = Check.OTHER;
 
     private RowsTest() {
     }
@@ -20,19 +19,6 @@ public final class RowsTest {
         rowsAreDropped();
         statusTellsTheLatest();
         Check.end();
-    }
-
-    private static int item(DoorVotes x, int row, int i) {
-        boolean asShut = x.bents(2, 1, row, i, 1, 0) == 7;
-        boolean asOpen = x.bents(2, 0, row, i, 1, 0) == 7;
-        return asShut ? asOpen ? -1 : 0 : asOpen ? 1 : OTHER;
-    }
-
-    private static void items(String when, DoorVotes x, int row, int... want) {
-        for (int i = 0; i < want.length; i++) {
-            Check.due(when + ": item " + i + " of row " + row, item(x, row, i), want[i]);
-        }
-        Check.due(when + ": behind row " + row, x.bents(2, 1, row, want.length, 1, 0), PLACE);
     }
 
     private static void aNewObjectHasNothing() {
@@ -57,11 +43,11 @@ public final class RowsTest {
         DoorVotes x = Check.townOf(PROBES);
         Check.due("row(0, 0, 3)", x.row(0, 0, 3), 3);
         Check.due("count(0)", x.count(0), 1);
-        items("new", x, 0, 0, 0, 0);
+        Check.items("new", x, 0, 0, 0, 0);
         x.set(0, 1, 1);
-        items("set", x, 0, 0, 1, 0);
+        Check.items("set", x, 0, 0, 1, 0);
         Check.due("row(0, 2, 2)", x.row(0, 2, 2), 2);
-        items("in its place", x, 0, 0, 0);
+        Check.items("in its place", x, 0, 0, 0);
         Check.due("count(0) then", x.count(0), 1);
         Check.due("row(7, 1, 40)", x.row(7, 1, 40), 40);
         Check.due("set(7, 39, 1)", x.set(7, 39, 1), 1);
@@ -88,7 +74,7 @@ public final class RowsTest {
         Check.due("status() behind SIZE", x.status(), 4);
         Check.due("row(5, 1, MIN)", x.row(5, 1, Integer.MIN_VALUE), SIZE);
         Check.unchanged("what row refuses", x, before);
-        items("refused", x, 0, 1, 0);
+        Check.items("refused", x, 0, 1, 0);
         Check.due("its lane is as it was", x.set(0, 0, 200), -56);
     }
 
@@ -111,7 +97,7 @@ public final class RowsTest {
         y.set(0, 1, 255);
         y.set(0, 2, 512);
         y.set(0, 3, 130);
-        items("cut", y, 0, 1, -1, 0, OTHER);
+        Check.items("cut", y, 0, 1, -1, 0, OTHER);
     }
 
     private static void setIsRefused() {
@@ -128,7 +114,7 @@ public final class RowsTest {
         Check.due("set(0, 2, 1)", x.set(0, 2, 1), PLACE);
         Check.due("set(0, MAX, 1)", x.set(0, Integer.MAX_VALUE, 1), PLACE);
         Check.unchanged("what set refuses", x, before);
-        items("refused", x, 0, 0, 0);
+        Check.items("refused", x, 0, 0, 0);
     }
 
     private static DoorVotes pattern() {
@@ -144,15 +130,15 @@ public final class RowsTest {
     private static void itemsAreCopied() {
         DoorVotes x = pattern();
         Check.due("copy(0, 0, 1, 1, 4)", x.copy(0, 0, 1, 1, 4), 4);
-        items("copied", x, 1, 0, 1, 0, -1, 1);
-        items("the source", x, 0, 1, 0, -1, 1);
+        Check.items("copied", x, 1, 0, 1, 0, -1, 1);
+        Check.items("the source", x, 0, 1, 0, -1, 1);
         Check.due("copy(0, 0, 0, 1, 3)", x.copy(0, 0, 0, 1, 3), 3);
-        items("up within one row", x, 0, 1, 1, 0, -1);
+        Check.items("up within one row", x, 0, 1, 1, 0, -1);
         Check.due("copy(1, 1, 1, 0, 4)", x.copy(1, 1, 1, 0, 4), 4);
-        items("down within one row", x, 1, 1, 0, -1, 1, 1);
+        Check.items("down within one row", x, 1, 1, 0, -1, 1, 1);
         Check.due("copy(0, 4, 1, 5, 0)", x.copy(0, 4, 1, 5, 0), 0);
         Check.due("copy(0, 1, 0, 1, 2)", x.copy(0, 1, 0, 1, 2), 2);
-        items("onto itself", x, 0, 1, 1, 0, -1);
+        Check.items("onto itself", x, 0, 1, 1, 0, -1);
     }
 
     private static void copiesAreRefused() {
@@ -175,8 +161,8 @@ public final class RowsTest {
         }
         Check.due("status() behind PLACE", x.status(), 2);
         Check.unchanged("what copy refuses", x, before);
-        items("refused", x, 0, 1, 0, -1, 1);
-        items("refused", x, 1, 0, 0, 0, 0, 0);
+        Check.items("refused", x, 0, 1, 0, -1, 1);
+        Check.items("refused", x, 1, 0, 0, 0, 0, 0);
     }
 
     private static void rowsAreDropped() {
@@ -192,7 +178,7 @@ public final class RowsTest {
         Check.due("drop(0)", x.drop(0), 4);
         Check.due("status() behind a drop", x.status(), 0);
         Check.due("row(0, 0, 4)", x.row(0, 0, 4), 4);
-        items("made anew", x, 0, 0, 0, 0, 0);
+        Check.items("made anew", x, 0, 0, 0, 0, 0);
     }
 
     private static void statusTellsTheLatest() {
