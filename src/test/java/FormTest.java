@@ -26,6 +26,9 @@ public final class FormTest {
         "int who(int,int,int,int,int)", "long awake(int,int,int,int)", "int drawn(int,int,int)", "int image(int)",
         "int restore(int)", "int kind(int)", "int as(int,int)", "int ask(int,int)", "int trace(int)",
         "int count(int)", "int status()"};
+    /** Less than rule 4 leaves: what the class has a use for. */
+    private static final Set<String> LIBRARY = Set.of("Arrays.fill", "Integer.bitCount", "Integer.compare", "Math.max",
+            "Math.min", "System.arraycopy");
     private static final Set<String> CONSTANTS = Set.of("NONE", "BAD", "STATE", "FULL");
     private static final Set<Class<?>> CONSTANT_TYPES = Set.of(int.class, long.class, boolean.class, char.class,
             String.class, int[].class, long[].class, char[].class, byte[].class);
@@ -39,6 +42,7 @@ public final class FormTest {
         classesAreSmall();
         wordsAreAllowed(Files.readString(Path.of(SOURCE), StandardCharsets.ISO_8859_1));
         methodsAreShort(Files.readAllLines(Path.of(SOURCE), StandardCharsets.ISO_8859_1));
+        objectsAreMadeOnce(Files.readAllLines(Path.of(SOURCE), StandardCharsets.ISO_8859_1));
         Check.end();
     }
 
@@ -127,9 +131,10 @@ public final class FormTest {
             Check.dueTrue(imports.group(1) + " may be imported",
                     Set.of("java.util.Arrays", "java.util.ArrayList", "java.util.List").contains(imports.group(1)));
         }
-        Matcher arrays = Pattern.compile("Arrays\\.(\\w+)").matcher(code.replaceAll("import [^;]*;", ""));
-        while (arrays.find()) {
-            Check.dueTrue("Arrays." + arrays.group(1), Set.of("copyOf", "copyOfRange", "fill").contains(arrays.group(1)));
+        Matcher library = Pattern.compile("\\b(Arrays|Integer|Long|Math|System)\\.(\\w+)")
+                .matcher(code.replaceAll("import [^;]*;", ""));
+        while (library.find()) {
+            Check.dueTrue(library.group() + " may be used", LIBRARY.contains(library.group()));
         }
     }
 
@@ -143,6 +148,18 @@ public final class FormTest {
                     length++;
                 }
                 Check.dueTrue(lines.get(k).trim() + " has some sixty lines at most", length <= 60);
+            }
+        }
+    }
+
+    /** All calls of a run live in one room: an object makes its parts as it is made, and no call makes any. */
+    private static void objectsAreMadeOnce(List<String> lines) {
+        boolean constructor = false;
+        for (String line : lines) {
+            constructor = constructor ? !line.equals("    }") : line.startsWith("    public DoorVotes()");
+            String code = line.replaceAll("//.*|^ *\\*.*|/\\*.*", "");
+            if (Pattern.compile("\\bnew\\b|\\.clone\\(|copyOf").matcher(code).find()) {
+                Check.dueTrue("made once: " + line.trim(), constructor || line.trim().startsWith("private final "));
             }
         }
     }
