@@ -166,6 +166,9 @@ final class AskedEdges {
         Check.due("rows then", x.count(0), 1);
         Check.due("doors then", x.count(2), 2);
         Check.due("acts then", x.count(7), 5);
+        DoorVotes six = Check.townOf(ALL);
+        Check.due("the last of six goes", six.knock(5, 1), 1);
+        Check.due("all times of six", six.count(5), 1);
         Check.sentence(34, "BAD.");
         Check.bounds("count(?)", v -> x.count(v), 0, 8);
         Check.bounds("count(?) without a town", v -> new DoorVotes().count(v), 0, 8);

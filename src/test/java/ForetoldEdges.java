@@ -366,6 +366,9 @@ final class ForetoldEdges {
         knockTimes(x, 0, 0, 1);
         parade(x, 1, NONE, NONE);
         parade(x, 0, 0, 0);
+        DoorVotes next = Check.townOf("h2,0;d0,1;p0,3;n0,4;p0,2;");
+        knockTimes(next, 2, 0, 1);
+        parade(next, 0, 1, 0b010);
         DoorVotes alone = Check.townOf("h2,0;d0,1;p0,0;");
         knockTimes(alone, 0, 0, 1);
         parade(alone, 0, 0, 0);
